@@ -6,6 +6,7 @@ public final class Promise02MakeTest {
         refused();
         full();
         newOnesAreFresh();
+        shiftIsFresh();
         highestOfItsSiblings();
         Due.end();
     }
@@ -94,6 +95,26 @@ public final class Promise02MakeTest {
         desk.remove(1);
         desk.make(0, 2, 0, 0, 4, 4, 8);
         Due.is("not on", desk.state(1, 1), 0);
+    }
+
+    private static void shiftIsFresh() {
+        PaneDesk desk = new PaneDesk();
+        for (int widget = 1; widget < 11; widget++) {
+            desk.make(0, 0, widget, 0, 4, 4, 5);
+            desk.shift(widget, widget, -widget);
+        }
+        for (int widget = 1; widget < 11; widget++) {
+            desk.remove(widget);
+            desk.make(0, 0, widget, 0, 4, 4, 5);
+            Due.is("child", desk.make(widget, 0, 2, 3, 1, 1, 5), 11);
+            Due.rectangle(desk, 11, widget + 2, 3, 1, 1);
+            Due.is("remove(11)", desk.remove(11), 1);
+            if (widget < 10) {
+                desk.make(widget + 1, 0, 2, 3, 1, 1, 5);
+                Due.rectangle(desk, 11, 2, 3 + widget + 1, 1, 1);
+                desk.remove(11);
+            }
+        }
     }
 
     private static void highestOfItsSiblings() {

@@ -6,6 +6,8 @@ public final class Promise03RemoveTest {
         noMoreSpecial();
         othersStaySpecial();
         orderOfTheRest();
+        roomInALine();
+        orderOfTheFocus();
         Due.end();
     }
 
@@ -74,6 +76,33 @@ public final class Promise03RemoveTest {
         Due.specials(desk, -1, -1, 3);
         desk.remove(3);
         Due.specials(desk, -1, -1, -1);
+    }
+
+    private static void roomInALine() {
+        PaneDesk desk = new PaneDesk();
+        desk.arrange(0, 1, 2, 0);
+        for (int widget = 1; widget < 4; widget++) {
+            desk.make(0, 0, 0, 0, 4, 4, 2);
+            desk.arrange(widget, 0, 0, 1);
+        }
+        Due.rectangle(desk, 2, 12, 0, 9, 16);
+        desk.remove(3);
+        Due.rectangle(desk, 1, 0, 0, 15, 16);
+        Due.rectangle(desk, 2, 17, 0, 15, 16);
+        desk.remove(1);
+        Due.rectangle(desk, 2, 0, 0, 32, 16);
+    }
+
+    private static void orderOfTheFocus() {
+        PaneDesk desk = new PaneDesk();
+        for (int widget = 1; widget < 4; widget++) {
+            desk.make(0, 1, 4 * widget, 0, 4, 4, 2);
+        }
+        Due.click(desk, 8, 1);
+        desk.remove(3);
+        Due.post(desk, 4, 0, 0);
+        desk.pump(1);
+        Due.specials(desk, 2, -1, 1);
     }
 
     private static void orderOfTheRest() {

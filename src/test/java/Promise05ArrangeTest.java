@@ -3,6 +3,8 @@ public final class Promise05ArrangeTest {
     public static void main(String[] args) {
         rowAndColumn();
         rootMayHaveThem();
+        weightsInTheRoot();
+        oneLeftOver();
         shares();
         firstOnesGetOneMore();
         nothingLeftOver();
@@ -54,6 +56,29 @@ public final class Promise05ArrangeTest {
         Due.rectangle(desk, 0, 0, 0, 32, 16);
         Due.rectangle(desk, 1, 0, 0, 32, 3);
         Due.rectangle(desk, 2, 0, 5, 32, 4);
+    }
+
+    private static void weightsInTheRoot() {
+        PaneDesk desk = new PaneDesk();
+        desk.make(0, 0, 0, 0, 3, 3, 2);
+        desk.make(0, 0, 0, 0, 4, 3, 3);
+        desk.arrange(0, 1, 3, 0);
+        desk.arrange(1, 0, 0, 1);
+        desk.arrange(2, 0, 0, 2);
+        Due.rectangle(desk, 1, 0, 0, 3 + 7 + 1, 16);
+        Due.rectangle(desk, 2, 14, 0, 4 + 14, 16);
+    }
+
+    private static void oneLeftOver() {
+        PaneDesk desk = panelOfThree(10, 12);
+        desk.arrange(1, 1, 0, 0);
+        desk.arrange(3, 0, 0, 3);
+        Due.rectangle(desk, 2, 2, 1, 3, 12);
+        Due.rectangle(desk, 3, 5, 1, 5, 12);
+        Due.rectangle(desk, 4, 10, 1, 2, 12);
+        desk.arrange(2, 0, 0, 1);
+        Due.rectangle(desk, 2, 2, 1, 4, 12);
+        Due.rectangle(desk, 3, 6, 1, 4, 12);
     }
 
     private static void shares() {

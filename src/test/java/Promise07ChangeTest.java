@@ -5,6 +5,7 @@ public final class Promise07ChangeTest {
         visible();
         enabled();
         stacking();
+        stackingAgainAndAgain();
         root();
         refused();
         Due.end();
@@ -76,6 +77,21 @@ public final class Promise07ChangeTest {
         Due.is("only among its siblings", desk.at(2, 2), 3);
         desk.change(1, 3, 1);
         Due.is("with its children", desk.at(2, 2), 4);
+    }
+
+    private static void stackingAgainAndAgain() {
+        PaneDesk desk = threeOverOneAnother();
+        for (int i = 0; i < 40; i++) {
+            int widget = 1 + i % 3;
+            Due.is("highest", desk.change(widget, 3, 1), true);
+            Due.is("at(2, 2)", desk.at(2, 2), widget);
+            Due.is("children of the root", desk.state(0, 5), 3);
+        }
+        for (int i = 0; i < 40; i++) {
+            Due.is("lowest", desk.change(1 + i % 3, 3, 0), true);
+            Due.is("children of the root", desk.state(0, 5), 3);
+        }
+        Due.is("at(2, 2)", desk.at(2, 2), 2);
     }
 
     private static void root() {

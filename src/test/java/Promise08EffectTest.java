@@ -8,6 +8,7 @@ public final class Promise08EffectTest {
         raising();
         shifting();
         shiftingWraps();
+        shiftingOneAlone();
         focusing();
         actingInTurn();
         actingOnlyOnce();
@@ -90,8 +91,11 @@ public final class Promise08EffectTest {
         set(desk, 1, 3, 3);
         Due.click(desk, 1, 1);
         Due.is("at(16, 1)", desk.at(16, 1), 3);
-        Due.click(desk, 1, 1);
-        Due.is("at(16, 1)", desk.at(16, 1), 3);
+        for (int i = 0; i < 20; i++) {
+            Due.click(desk, 1, 1);
+            Due.is("at(16, 1)", desk.at(16, 1), 3);
+            Due.is("children of the root", desk.state(0, 5), 4);
+        }
     }
 
     private static void shifting() {
@@ -113,6 +117,22 @@ public final class Promise08EffectTest {
         Due.rectangle(desk, 5, 16 - 20, 1 + 20, 2, 2);
         Due.click(desk, 1, 1);
         Due.rectangle(desk, 5, 16 + 20, 1 + 19, 2, 2);
+    }
+
+    private static void shiftingOneAlone() {
+        PaneDesk desk = new PaneDesk();
+        for (int widget = 1; widget <= 5; widget++) {
+            desk.make(0, 1, 0, 0, 4, 4, 3);
+        }
+        for (int widget = 1; widget <= 5; widget++) {
+            desk.make(widget, 3, 4, 4, 1, 1, 3);
+        }
+        set(desk, 5, 4, 3);
+        Due.click(desk, 0, 0);
+        for (int widget = 1; widget <= 5; widget++) {
+            int place = widget == 3 ? 3 : 4;
+            Due.rectangle(desk, widget + 5, place, place, 1, 1);
+        }
     }
 
     private static void focusing() {

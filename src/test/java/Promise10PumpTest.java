@@ -2,6 +2,7 @@
 public final class Promise10PumpTest {
     public static void main(String[] args) {
         counts();
+        theFirstOnesAlone();
         refused();
         drawsAnew();
         move();
@@ -44,6 +45,30 @@ public final class Promise10PumpTest {
         Due.specials(desk, -1, -1, 2);
         Due.is("pump(1)", desk.pump(1), 1);
         Due.specials(desk, -1, -1, 3);
+    }
+
+    private static void theFirstOnesAlone() {
+        PaneDesk desk = row();
+        Due.post(desk, 1, 11, 1);
+        Due.post(desk, 2, 12, 2);
+        for (int k = 1; k < 10; k++) {
+            Due.post(desk, 3, k, 0);
+        }
+        Due.post(desk, 0, 6, 1);
+        Due.is("pump(1)", desk.pump(1), 1);
+        Due.specials(desk, 3, 3, 3);
+        Due.is("pump(3)", desk.pump(3), 3);
+        Due.specials(desk, 3, -1, 3);
+        Due.is("two keys", desk.state(3, 0), 12);
+        Due.is("pump(2)", desk.pump(2), 2);
+        Due.is("two keys more", desk.state(3, 0), 234);
+        Due.is("post behind those that wait", desk.post(4, 0, 0), 7);
+        Due.is("pump(5)", desk.pump(5), 5);
+        Due.is("the last keys", desk.state(3, 0), 789);
+        Due.is("pump(1)", desk.pump(1), 1);
+        Due.specials(desk, 2, -1, 3);
+        Due.is("pump(16)", desk.pump(16), 1);
+        Due.specials(desk, 2, -1, 1);
     }
 
     private static void refused() {

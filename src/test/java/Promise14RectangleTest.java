@@ -10,6 +10,7 @@ public final class Promise14RectangleTest {
         notThere(desk);
         hidden(desk);
         hiddenInALine();
+        hiddenBesideOthers();
         Due.end();
     }
 
@@ -32,6 +33,24 @@ public final class Promise14RectangleTest {
         desk.shift(0, 2, 3);
         Due.rectangle(desk, 1, 28, -8, 7, 9);
         Due.rectangle(desk, 2, 68, 32, 32, 1);
+    }
+
+    private static void hiddenBesideOthers() {
+        PaneDesk desk = new PaneDesk();
+        for (int widget = 1; widget < 12; widget++) {
+            desk.make(0, 0, 0, 0, 2, 2, 3);
+        }
+        desk.arrange(0, 1, 0, 0);
+        for (int hidden = 1; hidden < 12; hidden++) {
+            // The hidden one is placed last, so that the others' rectangles stand already.
+            desk.change(hidden, 3, 1);
+            desk.change(hidden, 1, 0);
+            for (int widget = 1; widget < 12; widget++) {
+                int before = widget > hidden ? widget - hidden - 1 : 11 - hidden + widget - 1;
+                Due.rectangle(desk, widget, widget == hidden ? 0 : 2 * before, 0, 2, widget == hidden ? 2 : 16);
+            }
+            desk.change(hidden, 1, 1);
+        }
     }
 
     private static void hiddenInALine() {
