@@ -1,15 +1,28 @@
 /** Compares answers with those that are due, and ends a test with exit code 1 if one was wrong. */
 final class Due {
     private static int wrong = 0;
+    private static String sentence = "";
 
     private Due() {
     }
 
+    /** The words of the document that the calls from here on are due to. */
+    static void sentence(String words) {
+        sentence = words;
+    }
+
     static void is(String call, long got, long want) {
         if (got != want) {
-            wrong++;
-            System.out.println(call + " answered " + got + ", due is " + want);
+            tell(call + " answered " + got + ", due is " + want);
         }
+    }
+
+    private static void tell(String what) {
+        wrong++;
+        if (!sentence.isEmpty()) {
+            System.out.println("\"" + sentence + "\"");
+        }
+        System.out.println(what);
     }
 
     static void is(String call, boolean got, boolean want) {
@@ -18,8 +31,7 @@ final class Due {
 
     static void same(String call, String got, String want) {
         if (!got.equals(want)) {
-            wrong++;
-            System.out.println(call + " gave\n  " + got + "\n  due is\n  " + want);
+            tell(call + " gave\n  " + got + "\n  due is\n  " + want);
         }
     }
 
@@ -58,33 +70,9 @@ final class Due {
         is("pump(16)", desk.pump(16), 2);
     }
 
-    /** All that can be asked of a desk without changing it. */
-    static String face(PaneDesk desk) {
-        StringBuilder text = new StringBuilder();
-        for (int widget = 0; widget < 12; widget++) {
-            text.append(" w").append(widget).append(':');
-            for (int what = 0; what < 4; what++) {
-                text.append(desk.rectangle(widget, what)).append(',');
-            }
-            for (int what = 0; what < 6; what++) {
-                text.append(desk.state(widget, what)).append(',');
-            }
-        }
-        text.append(" special:");
-        for (int what = 0; what < 3; what++) {
-            text.append(desk.special(what)).append(',');
-        }
-        text.append(" noted:");
-        for (int k = -1; k < 16; k++) {
-            text.append(desk.noted(k)).append(',');
-        }
-        text.append(" pixels:");
-        for (int y = 0; y < 16; y++) {
-            for (int x = 0; x < 32; x++) {
-                text.append(desk.pixel(x, y)).append('/').append(desk.at(x, y)).append(',');
-            }
-        }
-        return text.append(" screen:").append(desk.screen()).toString();
+    /** The first numbers outside of a range on either side, and the last ones that there are. */
+    static int[] outside(int least, int greatest) {
+        return new int[] {least - 1, greatest + 1, Integer.MIN_VALUE, Integer.MAX_VALUE};
     }
 
     static void end() {

@@ -1,7 +1,8 @@
 /** Long runs of mixed calls, right and wrong ones: PaneDesk must answer as the model does, each time. */
 public final class ModelTest {
     private static final int RUNS = 1500;
-    private static final int CALLS = 512;
+    // What an object is good for; drawing takes two of them, as the screen is looked at each time.
+    private static final int CALLS = 510;
 
     // A sequence of its own, so that every run of the test makes the same calls.
     private static long seed;
@@ -24,6 +25,9 @@ public final class ModelTest {
         StringBuilder calls = new StringBuilder();
         for (int i = 0; i < CALLS; i++) {
             int method = i < 20 ? pick(3) == 0 ? 1 : 0 : pick(28);
+            if (method == 20 || method == 21) {
+                i++;
+            }
             int[] a = arguments(method, mistakes);
             long got = onDesk(desk, method, a);
             long want = onModel(model, method, a);

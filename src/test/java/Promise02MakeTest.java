@@ -1,17 +1,62 @@
+import java.util.Arrays;
+
 /** Promise 2: make. */
 public final class Promise02MakeTest {
+    // What Twins.lively() leaves free.
+    private static final int FREE = 8;
+
     public static void main(String[] args) {
-        numbers();
-        edges();
-        refused();
-        full();
+        highestOfItsSiblings();
+        leastNumberThatIsFree();
+        noSuchParent();
+        kindNot0To3();
+        xOrYNotMinus40To40();
+        wOrHNot1To32();
+        colourNot0To15();
+        fullIfThereAre12();
         newOnesAreFresh();
         shiftIsFresh();
-        highestOfItsSiblings();
         Due.end();
     }
 
-    private static void numbers() {
+    private static int make(PaneDesk desk, int... a) {
+        return desk.make(a[0], a[1], a[2], a[3], a[4], a[5], a[6]);
+    }
+
+    private static void taken(int... a) {
+        PaneDesk desk = new PaneDesk();
+        Twins.lively(desk);
+        Due.is("make" + Arrays.toString(a), make(desk, a), FREE);
+        Due.rectangle(desk, FREE, a[2], a[3], a[4], a[5]);
+        Due.is("its parent", desk.state(FREE, 4), a[0]);
+    }
+
+    private static void refused(int... a) {
+        String call = "make" + Arrays.toString(a);
+        Twins.changesNothing(call, Twins::lively, desk -> Due.is(call, make(desk, a), -1));
+    }
+
+    private static void highestOfItsSiblings() {
+        Due.sentence("A new widget, the highest of its siblings");
+        PaneDesk desk = new PaneDesk();
+        desk.make(0, 0, 0, 0, 3, 3, 2);
+        desk.make(0, 0, 0, 0, 3, 3, 3);
+        desk.make(0, 0, 0, 0, 3, 3, 4);
+        Due.is("at(0, 0)", desk.at(0, 0), 3);
+        desk.remove(1);
+        Due.is("least number", desk.make(0, 0, 0, 0, 3, 3, 5), 1);
+        Due.is("at(0, 0)", desk.at(0, 0), 1);
+        desk.pump(0);
+        Due.is("pixel(0, 0)", desk.pixel(0, 0), 5);
+        desk.change(2, 3, 1);
+        Due.is("make", desk.make(0, 0, 0, 0, 3, 3, 5), 4);
+        Due.is("above one that was made the highest", desk.at(0, 0), 4);
+        Due.is("make", desk.make(2, 0, 0, 0, 3, 3, 5), 5);
+        Due.is("not above its parent's siblings", desk.at(0, 0), 4);
+    }
+
+    private static void leastNumberThatIsFree() {
+        Due.sentence("its number, the least that is free");
         PaneDesk desk = new PaneDesk();
         Due.is("first", desk.make(0, 0, 1, 2, 3, 4, 5), 1);
         Due.rectangle(desk, 1, 1, 2, 3, 4);
@@ -23,49 +68,102 @@ public final class Promise02MakeTest {
         Due.is("next free", desk.make(1, 0, 0, 0, 1, 1, 1), 2);
         Due.is("behind", desk.make(2, 0, 0, 0, 1, 1, 1), 4);
         Due.is("parent with a greater number", desk.state(1, 4), 3);
-    }
-
-    private static void edges() {
-        PaneDesk desk = new PaneDesk();
-        Due.is("least numbers", desk.make(0, 0, -40, -40, 1, 1, 0), 1);
-        Due.rectangle(desk, 1, -40, -40, 1, 1);
-        Due.is("greatest numbers", desk.make(0, 3, 40, 40, 32, 32, 15), 2);
-        Due.rectangle(desk, 2, 40, 40, 32, 32);
-    }
-
-    private static void refused() {
-        int[][] wrong = {
-            {-1, 0, 0, 0, 1, 1, 1}, {1, 0, 0, 0, 1, 1, 1}, {12, 0, 0, 0, 1, 1, 1},
-            {Integer.MAX_VALUE, 0, 0, 0, 1, 1, 1}, {Integer.MIN_VALUE, 0, 0, 0, 1, 1, 1},
-            {0, -1, 0, 0, 1, 1, 1}, {0, 4, 0, 0, 1, 1, 1},
-            {0, 0, -41, 0, 1, 1, 1}, {0, 0, 41, 0, 1, 1, 1},
-            {0, 0, 0, -41, 1, 1, 1}, {0, 0, 0, 41, 1, 1, 1},
-            {0, 0, 0, 0, 0, 1, 1}, {0, 0, 0, 0, 33, 1, 1},
-            {0, 0, 0, 0, 1, 0, 1}, {0, 0, 0, 0, 1, 33, 1},
-            {0, 0, 0, 0, 1, 1, -1}, {0, 0, 0, 0, 1, 1, 16},
-        };
-        PaneDesk desk = new PaneDesk();
-        String before = Due.face(desk);
-        for (int[] a : wrong) {
-            Due.is(java.util.Arrays.toString(a), desk.make(a[0], a[1], a[2], a[3], a[4], a[5], a[6]), -1);
+        for (int widget = 5; widget < 12; widget++) {
+            Due.is("up to the last", desk.make(0, 0, 0, 0, 1, 1, 1), widget);
         }
-        Due.same("refused make", Due.face(desk), before);
-        Due.is("first after refused ones", desk.make(0, 0, 0, 0, 1, 1, 1), 1);
+        desk.remove(11);
+        desk.remove(4);
+        desk.remove(7);
+        Due.is("of several", desk.make(0, 0, 0, 0, 1, 1, 1), 4);
+        Due.is("of several", desk.make(0, 0, 0, 0, 1, 1, 1), 7);
+        Due.is("of several", desk.make(0, 0, 0, 0, 1, 1, 1), 11);
     }
 
-    private static void full() {
+    private static void noSuchParent() {
+        Due.sentence("REFUSED: no such parent");
+        taken(0, 0, 1, 1, 2, 2, 3);
+        for (int parent : Due.outside(0, 11)) {
+            refused(parent, 0, 1, 1, 2, 2, 3);
+        }
+        refused(FREE, 0, 1, 1, 2, 2, 3);
+        refused(11, 0, 1, 1, 2, 2, 3);
+        PaneDesk desk = new PaneDesk();
+        desk.make(0, 0, 0, 0, 1, 1, 1);
+        desk.make(1, 0, 0, 0, 1, 1, 1);
+        desk.remove(1);
+        Due.is("one that was taken away", desk.make(1, 0, 0, 0, 1, 1, 1), -1);
+        Due.is("one that was taken away with it", desk.make(2, 0, 0, 0, 1, 1, 1), -1);
+        for (int widget = 1; widget < 12; widget++) {
+            Due.is("the newest one as parent", desk.make(widget - 1, 0, 0, 0, 1, 1, 1), widget);
+        }
+    }
+
+    private static void kindNot0To3() {
+        Due.sentence("REFUSED: kind not 0 .. 3");
+        for (int kind = 0; kind <= 3; kind++) {
+            taken(0, kind, 1, 1, 2, 2, 3);
+        }
+        for (int kind : Due.outside(0, 3)) {
+            refused(0, kind, 1, 1, 2, 2, 3);
+        }
+    }
+
+    private static void xOrYNotMinus40To40() {
+        Due.sentence("REFUSED: x or y not -40 .. 40");
+        for (int place : new int[] {-40, 40}) {
+            taken(0, 0, place, 1, 2, 2, 3);
+            taken(0, 0, 1, place, 2, 2, 3);
+        }
+        for (int place : Due.outside(-40, 40)) {
+            refused(0, 0, place, 1, 2, 2, 3);
+            refused(0, 0, 1, place, 2, 2, 3);
+        }
+    }
+
+    private static void wOrHNot1To32() {
+        Due.sentence("REFUSED: w or h not 1 .. 32");
+        for (int size : new int[] {1, 32}) {
+            taken(0, 0, 1, 1, size, 2, 3);
+            taken(0, 0, 1, 1, 2, size, 3);
+        }
+        for (int size : Due.outside(1, 32)) {
+            refused(0, 0, 1, 1, size, 2, 3);
+            refused(0, 0, 1, 1, 2, size, 3);
+        }
+    }
+
+    private static void colourNot0To15() {
+        Due.sentence("REFUSED: colour not 0 .. 15");
+        for (int colour : new int[] {0, 15}) {
+            taken(0, 0, 1, 1, 2, 2, colour);
+            PaneDesk desk = new PaneDesk();
+            desk.make(0, 0, 3, 3, 2, 2, colour);
+            desk.pump(0);
+            Due.is("pixel(3, 3)", desk.pixel(3, 3), colour == 0 ? 1 : 15);
+        }
+        for (int colour : Due.outside(0, 15)) {
+            refused(0, 0, 1, 1, 2, 2, colour);
+        }
+    }
+
+    private static void fullIfThereAre12() {
+        Due.sentence("FULL if there are 12");
         PaneDesk desk = new PaneDesk();
         for (int widget = 1; widget < 12; widget++) {
             Due.is("make", desk.make(widget - 1, 0, 0, 0, 1, 1, 1), widget);
         }
-        String before = Due.face(desk);
-        Due.is("thirteenth", desk.make(0, 0, 0, 0, 1, 1, 1), -2);
-        Due.same("make that is FULL", Due.face(desk), before);
+        for (int parent = 0; parent < 12; parent++) {
+            Due.is("thirteenth", desk.make(parent, 0, 0, 0, 1, 1, 1), -2);
+        }
         Due.is("remove(11)", desk.remove(11), 1);
         Due.is("room again", desk.make(0, 0, 0, 0, 1, 1, 1), 11);
+        Due.is("and full again", desk.make(0, 0, 0, 0, 1, 1, 1), -2);
+        Twins.changesNothing("make that is FULL", Twins::crowded,
+            one -> Due.is("make", one.make(0, 1, 2, 2, 3, 3, 4), -2));
     }
 
     private static void newOnesAreFresh() {
+        Due.sentence("New: weight, gap, shift, layout, value 0, visible, enabled, not on");
         PaneDesk desk = new PaneDesk();
         desk.make(0, 3, 0, 0, 4, 4, 5);
         desk.arrange(1, 1, 2, 3);
@@ -98,6 +196,7 @@ public final class Promise02MakeTest {
     }
 
     private static void shiftIsFresh() {
+        Due.sentence("New: shift 0");
         PaneDesk desk = new PaneDesk();
         for (int widget = 1; widget < 11; widget++) {
             desk.make(0, 0, widget, 0, 4, 4, 5);
@@ -115,18 +214,5 @@ public final class Promise02MakeTest {
                 desk.remove(11);
             }
         }
-    }
-
-    private static void highestOfItsSiblings() {
-        PaneDesk desk = new PaneDesk();
-        desk.make(0, 0, 0, 0, 3, 3, 2);
-        desk.make(0, 0, 0, 0, 3, 3, 3);
-        desk.make(0, 0, 0, 0, 3, 3, 4);
-        Due.is("at(0, 0)", desk.at(0, 0), 3);
-        desk.remove(1);
-        Due.is("least number", desk.make(0, 0, 0, 0, 3, 3, 5), 1);
-        Due.is("at(0, 0)", desk.at(0, 0), 1);
-        desk.pump(0);
-        Due.is("pixel(0, 0)", desk.pixel(0, 0), 5);
     }
 }

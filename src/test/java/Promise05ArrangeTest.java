@@ -1,19 +1,16 @@
-/** Promise 5: arrange, and how rows and columns place their children. */
+import java.util.Arrays;
+
+/** Promise 5: arrange. How rows and columns then place their children is in TermsRectanglesTest. */
 public final class Promise05ArrangeTest {
     public static void main(String[] args) {
-        rowAndColumn();
+        layoutGapAndWeight();
+        noSuchWidget();
+        layoutNot0To2();
+        gapNot0To3();
+        weightNot0To3();
         rootMayHaveThem();
-        weightsInTheRoot();
-        oneLeftOver();
-        shares();
-        firstOnesGetOneMore();
-        nothingLeftOver();
         weightCountsOnlyInLines();
         gapOfTheParent();
-        hiddenOnesTakeNoRoom();
-        orderOfTheStack();
-        nested();
-        refused();
         Due.end();
     }
 
@@ -26,7 +23,13 @@ public final class Promise05ArrangeTest {
         return desk;
     }
 
-    private static void rowAndColumn() {
+    private static void refused(int... a) {
+        String call = "arrange" + Arrays.toString(a);
+        Twins.changesNothing(call, Twins::lively, desk -> Due.is(call, desk.arrange(a[0], a[1], a[2], a[3]), false));
+    }
+
+    private static void layoutGapAndWeight() {
+        Due.sentence("Layout, gap and weight.");
         PaneDesk desk = panelOfThree(20, 12);
         Due.is("row", desk.arrange(1, 1, 1, 0), true);
         Due.rectangle(desk, 2, 2, 1, 3, 12);
@@ -39,16 +42,63 @@ public final class Promise05ArrangeTest {
         Due.is("none", desk.arrange(1, 0, 3, 0), true);
         Due.rectangle(desk, 2, 11, 10, 3, 4);
         Due.rectangle(desk, 3, -7, 10, 4, 2);
+        Due.rectangle(desk, 4, 11, -8, 2, 1);
+    }
+
+    private static void noSuchWidget() {
+        Due.sentence("False likewise (no such widget)");
+        for (int widget : Due.outside(0, 11)) {
+            refused(widget, 1, 1, 1);
+        }
+        refused(8, 1, 1, 1);
+        refused(11, 1, 1, 1);
+        PaneDesk desk = panelOfThree(20, 12);
+        desk.remove(1);
+        Due.is("one that was taken away", desk.arrange(1, 0, 0, 0), false);
+        Due.is("one that was taken away with it", desk.arrange(2, 0, 0, 0), false);
+    }
+
+    private static void layoutNot0To2() {
+        Due.sentence("False likewise (a layout that is not 0, 1 or 2)");
+        PaneDesk desk = panelOfThree(20, 12);
+        Due.is("least", desk.arrange(1, 0, 0, 0), true);
+        Due.is("greatest", desk.arrange(1, 2, 0, 0), true);
+        for (int layout : Due.outside(0, 2)) {
+            refused(1, layout, 0, 0);
+        }
+    }
+
+    private static void gapNot0To3() {
+        Due.sentence("False likewise (a gap that is not 0 .. 3)");
+        PaneDesk desk = panelOfThree(20, 12);
+        for (int gap = 0; gap <= 3; gap++) {
+            Due.is("gap " + gap, desk.arrange(1, 1, gap, 0), true);
+            Due.rectangle(desk, 3, 2 + 3 + gap, 1, 4, 12);
+            Due.rectangle(desk, 4, 2 + 3 + gap + 4 + gap, 1, 2, 12);
+        }
+        for (int gap : Due.outside(0, 3)) {
+            refused(1, 2, gap, 0);
+        }
+    }
+
+    private static void weightNot0To3() {
+        Due.sentence("False likewise (a weight that is not 0 .. 3)");
+        PaneDesk desk = panelOfThree(13, 12);
         desk.arrange(1, 1, 0, 0);
-        desk.shift(1, 3, -2);
-        Due.rectangle(desk, 2, -1, 3, 3, 12);
-        Due.rectangle(desk, 3, 2, 3, 4, 12);
-        desk.arrange(1, 2, 0, 0);
-        Due.rectangle(desk, 2, -1, 3, 20, 4);
-        Due.rectangle(desk, 3, -1, 7, 20, 2);
+        desk.arrange(4, 0, 0, 1);
+        for (int weight = 0; weight <= 3; weight++) {
+            Due.is("weight " + weight, desk.arrange(2, 0, 0, weight), true);
+            // Four are left over: 0 and 4, 2 and 2, 2.7 and 1.3, 3 and 1.
+            Due.is("width of 2", desk.rectangle(2, 2), 3 + new int[] {0, 2, 3, 3}[weight]);
+            Due.is("width of 4", desk.rectangle(4, 2), 2 + new int[] {4, 2, 1, 1}[weight]);
+        }
+        for (int weight : Due.outside(0, 3)) {
+            refused(2, 2, 0, weight);
+        }
     }
 
     private static void rootMayHaveThem() {
+        Due.sentence("(the root may have them)");
         PaneDesk desk = new PaneDesk();
         desk.make(0, 0, 5, 5, 3, 3, 2);
         desk.make(0, 0, 5, 5, 4, 4, 3);
@@ -56,82 +106,18 @@ public final class Promise05ArrangeTest {
         Due.rectangle(desk, 0, 0, 0, 32, 16);
         Due.rectangle(desk, 1, 0, 0, 32, 3);
         Due.rectangle(desk, 2, 0, 5, 32, 4);
-    }
-
-    private static void weightsInTheRoot() {
-        PaneDesk desk = new PaneDesk();
-        desk.make(0, 0, 0, 0, 3, 3, 2);
-        desk.make(0, 0, 0, 0, 4, 3, 3);
         desk.arrange(0, 1, 3, 0);
         desk.arrange(1, 0, 0, 1);
         desk.arrange(2, 0, 0, 2);
         Due.rectangle(desk, 1, 0, 0, 3 + 7 + 1, 16);
         Due.rectangle(desk, 2, 14, 0, 4 + 14, 16);
-    }
-
-    private static void oneLeftOver() {
-        PaneDesk desk = panelOfThree(10, 12);
-        desk.arrange(1, 1, 0, 0);
-        desk.arrange(3, 0, 0, 3);
-        Due.rectangle(desk, 2, 2, 1, 3, 12);
-        Due.rectangle(desk, 3, 5, 1, 5, 12);
-        Due.rectangle(desk, 4, 10, 1, 2, 12);
-        desk.arrange(2, 0, 0, 1);
-        Due.rectangle(desk, 2, 2, 1, 4, 12);
-        Due.rectangle(desk, 3, 6, 1, 4, 12);
-    }
-
-    private static void shares() {
-        PaneDesk desk = panelOfThree(21, 12);
-        desk.arrange(1, 1, 0, 0);
-        desk.arrange(2, 0, 0, 1);
-        desk.arrange(4, 0, 0, 3);
-        Due.rectangle(desk, 2, 2, 1, 6, 12);
-        Due.rectangle(desk, 3, 8, 1, 4, 12);
-        Due.rectangle(desk, 4, 12, 1, 11, 12);
-        desk.arrange(1, 2, 1, 0);
-        Due.rectangle(desk, 2, 2, 1, 21, 4 + 0 + 1);
-        Due.rectangle(desk, 3, 2, 7, 21, 2);
-        Due.rectangle(desk, 4, 2, 10, 21, 1 + 2);
-    }
-
-    private static void firstOnesGetOneMore() {
-        PaneDesk desk = panelOfThree(14, 12);
-        desk.arrange(1, 1, 0, 0);
-        for (int widget = 2; widget < 5; widget++) {
-            desk.arrange(widget, 0, 0, 1);
-        }
-        Due.is("width of 2", desk.rectangle(2, 2), 3 + 2);
-        Due.is("width of 3", desk.rectangle(3, 2), 4 + 2);
-        Due.is("width of 4", desk.rectangle(4, 2), 2 + 1);
-        desk.arrange(2, 0, 0, 0);
-        desk.wish(1, 2, 1, 12, 12);
-        Due.is("no weight, nothing more", desk.rectangle(2, 2), 3);
-        Due.is("first with a weight", desk.rectangle(3, 2), 4 + 2);
-        Due.is("second with a weight", desk.rectangle(4, 2), 2 + 1);
-        desk.arrange(2, 0, 0, 3);
-        desk.arrange(3, 0, 0, 3);
-        desk.wish(1, 2, 1, 11, 12);
-        Due.is("share 6 / 7 and one", desk.rectangle(2, 2), 3 + 1);
-        Due.is("share 6 / 7 and one", desk.rectangle(3, 2), 4 + 1);
-        Due.is("share 2 / 7", desk.rectangle(4, 2), 2);
-    }
-
-    private static void nothingLeftOver() {
-        PaneDesk desk = panelOfThree(11, 12);
-        desk.arrange(1, 1, 1, 0);
-        for (int widget = 2; widget < 5; widget++) {
-            desk.arrange(widget, 0, 0, 2);
-        }
-        Due.rectangle(desk, 2, 2, 1, 3, 12);
-        Due.rectangle(desk, 3, 6, 1, 4, 12);
-        Due.rectangle(desk, 4, 11, 1, 2, 12);
-        desk.wish(1, 2, 1, 4, 12);
-        Due.rectangle(desk, 3, 6, 1, 4, 12);
-        Due.rectangle(desk, 4, 11, 1, 2, 12);
+        refused(0, 3, 0, 0);
+        refused(0, 1, 4, 0);
+        refused(0, 1, 0, 4);
     }
 
     private static void weightCountsOnlyInLines() {
+        Due.sentence("Layout, gap and weight (which its parent's row or column looks at).");
         PaneDesk desk = panelOfThree(20, 12);
         desk.arrange(2, 0, 0, 3);
         Due.rectangle(desk, 2, 11, 10, 3, 4);
@@ -141,6 +127,7 @@ public final class Promise05ArrangeTest {
     }
 
     private static void gapOfTheParent() {
+        Due.sentence("each further one GAP (the parent's) behind the one before");
         PaneDesk desk = panelOfThree(20, 12);
         desk.arrange(1, 1, 2, 0);
         desk.arrange(2, 0, 3, 0);
@@ -148,56 +135,5 @@ public final class Promise05ArrangeTest {
         desk.arrange(1, 1, 3, 0);
         desk.arrange(3, 0, 0, 1);
         Due.is("gaps are not left over", desk.rectangle(3, 2), 4 + 20 - 9 - 6);
-    }
-
-    private static void hiddenOnesTakeNoRoom() {
-        PaneDesk desk = panelOfThree(20, 12);
-        desk.arrange(1, 1, 2, 0);
-        desk.arrange(3, 0, 0, 3);
-        desk.arrange(4, 0, 0, 1);
-        desk.change(3, 1, 0);
-        desk.shift(1, 1, 1);
-        Due.rectangle(desk, 2, 1, 0, 3, 12);
-        Due.rectangle(desk, 3, 2, 1, 4, 2);
-        Due.rectangle(desk, 4, 6, 0, 2 + 20 - 5 - 2, 12);
-        desk.change(2, 1, 0);
-        Due.rectangle(desk, 4, 1, 0, 20, 12);
-        desk.change(1, 1, 0);
-        Due.rectangle(desk, 4, 1, 0, 20, 12);
-    }
-
-    private static void orderOfTheStack() {
-        PaneDesk desk = panelOfThree(20, 12);
-        desk.arrange(1, 1, 1, 0);
-        desk.change(4, 3, 0);
-        Due.is("left of 4", desk.rectangle(4, 0), 2);
-        Due.is("left of 2", desk.rectangle(2, 0), 5);
-        Due.is("left of 3", desk.rectangle(3, 0), 9);
-    }
-
-    private static void nested() {
-        PaneDesk desk = panelOfThree(20, 12);
-        desk.arrange(1, 1, 0, 0);
-        desk.arrange(3, 2, 1, 1);
-        desk.make(3, 0, 0, 0, 1, 2, 6);
-        desk.make(3, 0, 0, 0, 1, 2, 7);
-        desk.arrange(6, 0, 0, 1);
-        Due.rectangle(desk, 5, 5, 1, 15, 2);
-        Due.rectangle(desk, 6, 5, 4, 15, 9);
-    }
-
-    private static void refused() {
-        PaneDesk desk = panelOfThree(20, 12);
-        desk.arrange(1, 1, 1, 1);
-        String before = Due.face(desk);
-        int[][] wrong = {
-            {5, 0, 0, 0}, {12, 0, 0, 0}, {-1, 0, 0, 0}, {Integer.MIN_VALUE, 0, 0, 0},
-            {1, -1, 0, 0}, {1, 3, 0, 0}, {1, 2, -1, 0}, {1, 2, 4, 0}, {1, 2, 0, -1}, {1, 2, 0, 4},
-        };
-        for (int[] a : wrong) {
-            Due.is(java.util.Arrays.toString(a), desk.arrange(a[0], a[1], a[2], a[3]), false);
-        }
-        Due.same("refused arrange", Due.face(desk), before);
-        Due.is("greatest", desk.arrange(1, 2, 3, 3), true);
     }
 }

@@ -1,22 +1,17 @@
-/** Promise 8: effect, and what each effect does when its widget acts. */
+import java.util.Arrays;
+
+/** Promise 8: effect. What each effect does when its widget acts is in TermsActingTest. */
 public final class Promise08EffectTest {
     public static void main(String[] args) {
-        refused();
-        none();
-        visibility();
-        enabling();
-        raising();
-        shifting();
-        shiftingWraps();
-        shiftingOneAlone();
-        focusing();
-        actingInTurn();
-        actingOnlyOnce();
-        rootAsTarget();
-        rootAsActor();
-        targetThatIsNotThere();
-        effectsOfOthersStay();
-        ownEffectIsLost();
+        theEffect();
+        noSuchWidget();
+        effectNot0To6();
+        targetNot0To11();
+        targetThereOrNot();
+        oneTakenAwayLosesItsOwn();
+        oneTakenAwayWithItsParentLosesItsOwn();
+        thoseOfOthersStay();
+        theRootMayHaveOne();
         Due.end();
     }
 
@@ -34,216 +29,100 @@ public final class Promise08EffectTest {
         Due.is("effect(" + widget + ", " + effect + ", " + target + ")", desk.effect(widget, effect, target), true);
     }
 
-    private static void refused() {
-        PaneDesk desk = four();
-        set(desk, 1, 1, 4);
-        int[][] wrong = {
-            {5, 0, 0}, {12, 0, 0}, {-1, 0, 0}, {Integer.MAX_VALUE, 0, 0},
-            {1, -1, 0}, {1, 7, 0}, {1, 2, -1}, {1, 2, 12}, {1, 2, Integer.MIN_VALUE},
-        };
-        for (int[] a : wrong) {
-            Due.is(java.util.Arrays.toString(a), desk.effect(a[0], a[1], a[2]), false);
-        }
-        Due.click(desk, 1, 1);
-        Due.is("the old effect holds", desk.state(4, 2), 0);
-        Due.is("and no other", desk.state(4, 3), 1);
+    private static void refused(int... a) {
+        String call = "effect" + Arrays.toString(a);
+        Twins.changesNothing(call, Twins::lively, desk -> Due.is(call, desk.effect(a[0], a[1], a[2]), false));
     }
 
-    private static void none() {
-        PaneDesk desk = four();
-        set(desk, 1, 1, 4);
-        set(desk, 1, 0, 4);
-        Due.click(desk, 1, 1);
-        Due.notes(desk, 4, 33, 49, 81, 97);
-        Due.is("state(4, 2)", desk.state(4, 2), 1);
-        Due.is("state(4, 3)", desk.state(4, 3), 1);
-    }
-
-    private static void visibility() {
+    private static void theEffect() {
+        Due.sentence("EFFECT 0 .. 6 and TARGET 0 .. 11");
         PaneDesk desk = four();
         set(desk, 1, 1, 4);
         Due.click(desk, 1, 1);
-        Due.is("hidden", desk.state(4, 2), 0);
-        Due.is("pixel(16, 1)", desk.pixel(16, 1), 1);
+        Due.is("SEEN 4", desk.state(4, 2), 0);
+        set(desk, 1, 2, 3);
         Due.click(desk, 1, 1);
-        Due.is("shown", desk.state(4, 2), 1);
-        Due.is("pixel(16, 1)", desk.pixel(16, 1), 6);
-        set(desk, 1, 1, 1);
-        Due.click(desk, 1, 1);
-        Due.is("itself hidden", desk.state(1, 2), 0);
-        Due.specials(desk, 1, -1, 1);
+        Due.is("the new one", desk.state(3, 3), 0);
+        Due.is("instead of the old one", desk.state(4, 2), 0);
+        Due.is("setting it does nothing else", desk.noted(-1), 6);
     }
 
-    private static void enabling() {
+    private static void noSuchWidget() {
+        Due.sentence("False likewise (no such widget)");
+        for (int widget : Due.outside(0, 11)) {
+            refused(widget, 1, 1);
+        }
+        refused(8, 1, 1);
+        refused(11, 1, 1);
         PaneDesk desk = four();
-        set(desk, 1, 2, 4);
+        desk.remove(1);
+        Due.is("one that was taken away", desk.effect(1, 1, 4), false);
+        desk.make(0, 1, 0, 0, 4, 4, 3);
         Due.click(desk, 1, 1);
-        Due.is("disabled", desk.state(4, 3), 0);
-        Due.is("still seen", desk.state(4, 2), 1);
-        Due.click(desk, 1, 1);
-        Due.is("enabled", desk.state(4, 3), 1);
+        Due.is("SEEN 4", desk.state(4, 2), 1);
     }
 
-    private static void raising() {
+    private static void effectNot0To6() {
+        Due.sentence("EFFECT 0 .. 6 [...] False likewise");
         PaneDesk desk = four();
-        desk.wish(3, 16, 1, 4, 4);
-        Due.is("at(16, 1)", desk.at(16, 1), 4);
-        set(desk, 1, 3, 3);
+        for (int effect = 0; effect <= 6; effect++) {
+            set(desk, 1, effect, 4);
+        }
         Due.click(desk, 1, 1);
-        Due.is("at(16, 1)", desk.at(16, 1), 3);
-        for (int i = 0; i < 20; i++) {
-            Due.click(desk, 1, 1);
-            Due.is("at(16, 1)", desk.at(16, 1), 3);
-            Due.is("children of the root", desk.state(0, 5), 4);
+        Due.is("the last one holds", desk.noted(0), 96 + 4);
+        for (int effect : Due.outside(0, 6)) {
+            refused(2, effect, 1);
         }
     }
 
-    private static void shifting() {
+    private static void targetNot0To11() {
+        Due.sentence("TARGET 0 .. 11 [...] False likewise");
         PaneDesk desk = four();
-        desk.make(4, 0, 1, 1, 2, 2, 7);
-        desk.shift(4, 3, -5);
-        set(desk, 1, 4, 4);
-        Due.click(desk, 1, 1);
-        Due.rectangle(desk, 5, 15 + 1 - 4, 1 + 4, 2, 2);
-        Due.rectangle(desk, 4, 15, 0, 4, 4);
-    }
-
-    private static void shiftingWraps() {
-        PaneDesk desk = four();
-        desk.make(4, 0, 1, 1, 2, 2, 7);
-        desk.shift(4, 19, 20);
-        set(desk, 1, 4, 4);
-        Due.click(desk, 1, 1);
-        Due.rectangle(desk, 5, 16 - 20, 1 + 20, 2, 2);
-        Due.click(desk, 1, 1);
-        Due.rectangle(desk, 5, 16 + 20, 1 + 19, 2, 2);
-    }
-
-    private static void shiftingOneAlone() {
-        PaneDesk desk = new PaneDesk();
-        for (int widget = 1; widget <= 5; widget++) {
-            desk.make(0, 1, 0, 0, 4, 4, 3);
-        }
-        for (int widget = 1; widget <= 5; widget++) {
-            desk.make(widget, 3, 4, 4, 1, 1, 3);
-        }
-        set(desk, 5, 4, 3);
-        Due.click(desk, 0, 0);
-        for (int widget = 1; widget <= 5; widget++) {
-            int place = widget == 3 ? 3 : 4;
-            Due.rectangle(desk, widget + 5, place, place, 1, 1);
-        }
-    }
-
-    private static void focusing() {
-        PaneDesk desk = four();
-        set(desk, 1, 5, 3);
-        Due.click(desk, 1, 1);
-        Due.specials(desk, 1, -1, 3);
-        Due.notes(desk, 5, 33, 49, 81, 97, 83);
-        set(desk, 1, 5, 4);
-        Due.click(desk, 1, 1);
-        Due.specials(desk, 1, -1, 1);
-        set(desk, 1, 5, 1);
-        Due.click(desk, 1, 1);
-        Due.notes(desk, 10, 97, 49, 97);
-        desk.change(2, 1, 0);
-        desk.change(2, 2, 0);
-        set(desk, 1, 5, 2);
-        Due.click(desk, 1, 1);
-        Due.specials(desk, 1, -1, 2);
-        Due.notes(desk, 13, 49, 97, 82);
-    }
-
-    private static void actingInTurn() {
-        PaneDesk desk = four();
-        desk.change(2, 1, 0);
-        desk.change(2, 2, 0);
-        set(desk, 1, 6, 2);
-        set(desk, 2, 6, 4);
-        set(desk, 4, 6, 3);
-        set(desk, 3, 2, 1);
-        Due.click(desk, 1, 1);
-        Due.notes(desk, 7, 33, 49, 81, 97, 98, 100, 99);
-        Due.is("box is on", desk.state(2, 1), 1);
-        Due.is("disabled by the last", desk.state(1, 3), 0);
-        Due.specials(desk, 1, -1, 1);
-    }
-
-    private static void actingOnlyOnce() {
-        PaneDesk desk = four();
-        set(desk, 1, 6, 1);
-        Due.click(desk, 1, 1);
-        Due.notes(desk, 4, 33, 49, 81, 97);
-        set(desk, 1, 6, 2);
-        set(desk, 2, 6, 3);
-        set(desk, 3, 6, 2);
-        Due.click(desk, 1, 1);
-        Due.notes(desk, 8, 97, 49, 97, 98, 99);
-        Due.is("box is on", desk.state(2, 1), 1);
-        Due.click(desk, 1, 1);
-        Due.notes(desk, 12, 99, 49, 97, 98, 99);
-        Due.is("box is off, by the next event", desk.state(2, 1), 0);
-        chainOfAll();
-    }
-
-    private static void chainOfAll() {
-        PaneDesk desk = new PaneDesk();
-        for (int widget = 1; widget < 12; widget++) {
-            desk.make(0, 2, widget, 0, 1, 1, 3);
-        }
-        for (int widget = 0; widget < 12; widget++) {
-            set(desk, widget, 6, (widget + 1) % 12);
-        }
-        Due.click(desk, 5, 0);
-        Due.notes(desk, 15, 85, 101, 102, 103, 104, 105, 106, 107, 96, 97, 98, 99, 100);
-        for (int widget = 1; widget < 12; widget++) {
-            Due.is("state(" + widget + ", 1)", desk.state(widget, 1), 1);
-        }
-    }
-
-    private static void rootAsTarget() {
-        PaneDesk desk = four();
-        set(desk, 1, 3, 0);
-        Due.click(desk, 1, 1);
-        Due.is("at(1, 1)", desk.at(1, 1), 1);
-        set(desk, 1, 5, 0);
-        Due.click(desk, 1, 1);
-        Due.specials(desk, 1, -1, 1);
-        set(desk, 1, 4, 0);
-        Due.click(desk, 1, 1);
-        Due.rectangle(desk, 1, -1, -1, 4, 4);
-        Due.rectangle(desk, 0, 0, 0, 32, 16);
-        set(desk, 1, 2, 0);
-        Due.click(desk, 1, 1);
-        Due.is("state(0, 3)", desk.state(0, 3), 0);
-        desk.change(0, 2, 1);
         set(desk, 1, 1, 0);
-        Due.click(desk, 1, 1);
-        Due.is("state(0, 2)", desk.state(0, 2), 0);
-        Due.is("screen()", desk.screen(), 0);
-    }
-
-    private static void rootAsActor() {
-        PaneDesk desk = four();
-        set(desk, 0, 1, 2);
-        Due.click(desk, 30, 10);
-        Due.notes(desk, 3, 32, 48, 96);
-        Due.is("state(2, 2)", desk.state(2, 2), 0);
-    }
-
-    private static void targetThatIsNotThere() {
-        for (int effect = 1; effect <= 6; effect++) {
-            PaneDesk desk = four();
-            set(desk, 1, effect, 11);
-            Due.click(desk, 1, 1);
-            Due.notes(desk, 4, 33, 49, 81, 97);
-            Due.specials(desk, 1, -1, 1);
-            Due.is("make after it", desk.make(0, 0, 0, 0, 1, 1, 1), 5);
+        set(desk, 1, 1, 11);
+        for (int target : Due.outside(0, 11)) {
+            refused(2, 1, target);
         }
     }
 
-    private static void effectsOfOthersStay() {
+    private static void targetThereOrNot() {
+        Due.sentence("TARGET 0 .. 11 (there or not)");
+        PaneDesk desk = four();
+        for (int target = 0; target < 12; target++) {
+            set(desk, 1, 1, target);
+        }
+        for (int widget = 5; widget < 12; widget++) {
+            desk.make(0, 0, 2 * widget, 10, 2, 2, 6);
+        }
+        Due.click(desk, 1, 1);
+        Due.is("one that was made later", desk.state(11, 2), 0);
+    }
+
+    private static void oneTakenAwayLosesItsOwn() {
+        Due.sentence("A widget taken away loses its own");
+        PaneDesk desk = four();
+        set(desk, 1, 1, 4);
+        desk.remove(1);
+        Due.is("make", desk.make(0, 1, 0, 0, 4, 4, 3), 1);
+        Due.click(desk, 1, 1);
+        Due.is("acted", desk.noted(0), 97);
+        Due.is("no effect", desk.state(4, 2), 1);
+    }
+
+    private static void oneTakenAwayWithItsParentLosesItsOwn() {
+        PaneDesk desk = four();
+        desk.make(4, 1, 0, 0, 4, 4, 3);
+        set(desk, 5, 1, 3);
+        desk.remove(4);
+        Due.is("make", desk.make(0, 0, 15, 0, 4, 4, 6), 4);
+        Due.is("make", desk.make(4, 1, 0, 0, 4, 4, 3), 5);
+        Due.click(desk, 15, 1);
+        Due.is("acted", desk.noted(0), 101);
+        Due.is("no effect", desk.state(3, 2), 1);
+    }
+
+    private static void thoseOfOthersStay() {
+        Due.sentence("those of others that aim at it stay, also for a later one of that number");
         PaneDesk desk = four();
         set(desk, 1, 1, 4);
         desk.remove(4);
@@ -252,15 +131,23 @@ public final class Promise08EffectTest {
         Due.is("shown", desk.state(4, 2), 1);
         Due.click(desk, 1, 1);
         Due.is("hidden by the old effect", desk.state(4, 2), 0);
+        desk.remove(4);
+        Due.is("a box of that number", desk.make(0, 2, 15, 0, 4, 4, 6), 4);
+        set(desk, 2, 6, 4);
+        Due.click(desk, 6, 1);
+        Due.is("is on", desk.state(4, 1), 1);
+        Due.click(desk, 1, 1);
+        Due.is("and hidden by the old effect", desk.state(4, 2), 0);
     }
 
-    private static void ownEffectIsLost() {
+    private static void theRootMayHaveOne() {
+        Due.sentence("the EFFECT that the widget has (the root is a widget)");
         PaneDesk desk = four();
-        set(desk, 1, 1, 4);
-        desk.remove(1);
-        Due.is("make", desk.make(0, 1, 0, 0, 4, 4, 3), 1);
-        Due.click(desk, 1, 1);
-        Due.is("acted", desk.noted(0), 97);
-        Due.is("no effect", desk.state(4, 2), 1);
+        set(desk, 0, 1, 2);
+        Due.click(desk, 30, 10);
+        Due.notes(desk, 3, 32, 48, 96);
+        Due.is("state(2, 2)", desk.state(2, 2), 0);
+        refused(0, 7, 0);
+        refused(0, 1, 12);
     }
 }
