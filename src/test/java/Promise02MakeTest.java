@@ -99,7 +99,7 @@ public final class Promise02MakeTest {
     }
 
     private static void kindNot0To3() {
-        Due.sentence("REFUSED: kind not 0 .. 3");
+        Due.sentence("REFUSED: [...] kind not 0 .. 3");
         for (int kind = 0; kind <= 3; kind++) {
             taken(0, kind, 1, 1, 2, 2, 3);
         }
@@ -109,7 +109,7 @@ public final class Promise02MakeTest {
     }
 
     private static void xOrYNotMinus40To40() {
-        Due.sentence("REFUSED: x or y not -40 .. 40");
+        Due.sentence("REFUSED: [...] x or y not -40 .. 40");
         for (int place : new int[] {-40, 40}) {
             taken(0, 0, place, 1, 2, 2, 3);
             taken(0, 0, 1, place, 2, 2, 3);
@@ -121,7 +121,7 @@ public final class Promise02MakeTest {
     }
 
     private static void wOrHNot1To32() {
-        Due.sentence("REFUSED: w or h not 1 .. 32");
+        Due.sentence("REFUSED: [...] w or h not 1 .. 32");
         for (int size : new int[] {1, 32}) {
             taken(0, 0, 1, 1, size, 2, 3);
             taken(0, 0, 1, 1, 2, size, 3);
@@ -133,7 +133,7 @@ public final class Promise02MakeTest {
     }
 
     private static void colourNot0To15() {
-        Due.sentence("REFUSED: colour not 0 .. 15");
+        Due.sentence("REFUSED: [...] colour not 0 .. 15");
         for (int colour : new int[] {0, 15}) {
             taken(0, 0, 1, 1, 2, 2, colour);
             PaneDesk desk = new PaneDesk();
@@ -196,7 +196,7 @@ public final class Promise02MakeTest {
     }
 
     private static void shiftIsFresh() {
-        Due.sentence("New: shift 0");
+        Due.sentence("New: [...] shift, layout, value 0");
         PaneDesk desk = new PaneDesk();
         for (int widget = 1; widget < 11; widget++) {
             desk.make(0, 0, widget, 0, 4, 4, 5);

@@ -26,7 +26,7 @@ public final class Promise15StateTest {
     }
 
     private static void eachWhat() {
-        Due.sentence("what 0: its value; 1: whether it is on; 2: SEEN; 3: ABLE; 4: its parent; 5: how many children");
+        Due.sentence("what 0: its value; 1: whether it is on; 2: SEEN; 3: ABLE; 4: its parent [...]; 5: how many children");
         PaneDesk desk = five();
         state(desk, 0, 0, 0, 1, 1, -1, 1);
         state(desk, 1, 0, 0, 1, 1, 0, 2);

@@ -7,6 +7,7 @@ public final class TermsActingTest {
         visibilityIsTurnedOver();
         visibilityBelowOneThatIsHidden();
         beingEnabledIsTurnedOver();
+        beingEnabledBelowOneThatIsNot();
         highestOfItsSiblings();
         highestThatIsHighestAlready();
         shiftGrows();
@@ -103,11 +104,10 @@ public final class TermsActingTest {
         Due.click(desk, 1, 1);
         desk.change(4, 1, 1);
         Due.is("its own was turned over", desk.state(5, 2), 0);
-        desk.change(4, 2, 0);
-        desk.effect(1, 2, 5);
+        desk.change(4, 1, 0);
         Due.click(desk, 1, 1);
-        desk.change(4, 2, 1);
-        Due.is("its own was turned over", desk.state(5, 3), 0);
+        desk.change(4, 1, 1);
+        Due.is("and over again", desk.state(5, 2), 1);
     }
 
     private static void beingEnabledIsTurnedOver() {
@@ -119,6 +119,20 @@ public final class TermsActingTest {
         Due.is("still seen", desk.state(4, 2), 1);
         Due.click(desk, 1, 1);
         Due.is("enabled", desk.state(4, 3), 1);
+    }
+
+    private static void beingEnabledBelowOneThatIsNot() {
+        PaneDesk desk = four();
+        desk.make(4, 0, 0, 0, 2, 2, 7);
+        desk.change(4, 2, 0);
+        desk.effect(1, 2, 5);
+        Due.click(desk, 1, 1);
+        desk.change(4, 2, 1);
+        Due.is("its own was turned over", desk.state(5, 3), 0);
+        desk.change(4, 2, 0);
+        Due.click(desk, 1, 1);
+        desk.change(4, 2, 1);
+        Due.is("and over again", desk.state(5, 3), 1);
     }
 
     private static void highestOfItsSiblings() {
@@ -192,7 +206,7 @@ public final class TermsActingTest {
     }
 
     private static void shiftOfOneAlone() {
-        Due.sentence("4 both numbers of its shift (and of no other) grow by 1");
+        Due.sentence("4 both numbers of its shift grow by 1 (and of no other)");
         PaneDesk desk = new PaneDesk();
         for (int widget = 1; widget <= 5; widget++) {
             desk.make(0, 1, 0, 0, 4, 4, 3);

@@ -328,7 +328,7 @@ public final class TermsEventsTest {
     }
 
     private static void releaseOutsideOfTheScreen() {
-        Due.sentence("RELEASE: as MOVE (none outside of the screen); then, if there is one PRESSED, none is");
+        Due.sentence("RELEASE: as MOVE; then, if there is one PRESSED, none is (outside of the screen, too)");
         for (int[] pixel : OUTSIDE) {
             PaneDesk desk = row();
             happens(desk, 1, 6, 1);

@@ -21,6 +21,7 @@ public final class TermsRectanglesTest {
         firstOnesWithAWeightAlone();
         allOfElevenInARow();
         weightOfOneThatIsHidden();
+        weightOfOneThatWasTakenAway();
         columnsLikewise();
         linesInLines();
         hiddenParent();
@@ -193,6 +194,8 @@ public final class TermsRectanglesTest {
                 PaneDesk desk = line(axis, length, 1, 3, 4, 3);
                 weights(desk, 1, 2, 3);
                 lengths(desk, axis, 1, 3, 4, 3);
+                weights(desk, 0, 2, 0);
+                lengths(desk, axis, 1, 3, 4, 3);
             }
             PaneDesk far = line(axis, 1, 3, 32, 32, 32, 32, 32, 32, 32, 32, 32, 32);
             weights(far, 3, 3, 3, 3, 3, 3, 3, 3, 3, 3);
@@ -280,7 +283,7 @@ public final class TermsRectanglesTest {
     }
 
     private static void firstOnesWithAWeightAlone() {
-        Due.sentence("of those (with a weight) the first ones");
+        Due.sentence("of those the first ones (of those with a weight)");
         for (int axis = 0; axis < 2; axis++) {
             PaneDesk desk = line(axis, 13, 0, 1, 2, 1, 2, 1, 1);
             weights(desk, 0, 3, 0, 3, 1, 0);
@@ -324,6 +327,29 @@ public final class TermsRectanglesTest {
             Due.is("place of 4", desk.rectangle(4, axis), start + 9 + 2);
             Due.is("length of 4", desk.rectangle(4, 2 + axis), 3 + 6);
             Due.is("length of 3", desk.rectangle(3, 2 + axis), 4);
+        }
+    }
+
+    private static void weightOfOneThatWasTakenAway() {
+        for (int axis = 0; axis < 2; axis++) {
+            for (int taken = 2; taken <= 4; taken++) {
+                PaneDesk desk = line(axis, 20, 0, 3, 3, 3);
+                weights(desk, 2, 2, 2);
+                desk.remove(taken);
+                int first = taken == 2 ? 3 : 2;
+                int second = taken == 4 ? 3 : 4;
+                // Fourteen are left over for the other two.
+                Due.is("length", desk.rectangle(first, 2 + axis), 3 + 7);
+                Due.is("length", desk.rectangle(second, 2 + axis), 3 + 7);
+                desk.wish(1, 2, 1, 19, 19);
+                Due.is("length", desk.rectangle(first, 2 + axis), 3 + 7);
+                Due.is("length", desk.rectangle(second, 2 + axis), 3 + 6);
+                // A later one of that number has no weight and takes three of the thirteen.
+                Due.is("make", desk.make(1, 0, 0, 0, 3, 3, 3), taken);
+                Due.is("length", desk.rectangle(first, 2 + axis), 3 + 5);
+                Due.is("length", desk.rectangle(second, 2 + axis), 3 + 5);
+                Due.is("length", desk.rectangle(taken, 2 + axis), 3);
+            }
         }
     }
 

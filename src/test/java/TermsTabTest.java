@@ -140,6 +140,12 @@ public final class TermsTabTest {
         panels.make(1, 0, 0, 0, 2, 2, 3);
         tabs(panels, -1);
         Due.notes(panels, 0, 0);
+        PaneDesk empty = buttons(3);
+        for (int widget = 1; widget <= 3; widget++) {
+            empty.remove(widget);
+        }
+        tabs(empty, -1);
+        Due.notes(empty, 0, 0);
         for (int what = 1; what <= 2; what++) {
             PaneDesk desk = buttons(2);
             desk.change(0, what, 0);
