@@ -30,9 +30,13 @@ public final class LanguageTest {
         fields();
         String code = Files.readString(SOURCE).replaceAll("(?s)/\\*.*?\\*/", "").replaceAll("//[^\n]*", "");
         words(code);
+        library(code);
+        constants(code);
         arrays(code);
+        loops(code);
         Map<String, String> bodies = bodies(code);
         lengths(bodies);
+        localArrays(bodies);
         noCallInACall(code);
         depth(bodies);
         Due.end();
@@ -95,11 +99,48 @@ public final class LanguageTest {
         }
     }
 
+    private static void library(String code) {
+        // Constants are all in capitals, so any other name that begins with one is a class's.
+        Matcher name = Pattern.compile("\\b[A-Z]\\w*[a-z]\\w*").matcher(code);
+        while (name.find()) {
+            Due.same("class", name.group(), "PaneDesk");
+        }
+        Due.is("a member of something", code.indexOf('.'), -1);
+    }
+
+    private static void constants(String code) {
+        for (String line : code.split("\n")) {
+            if (line.contains(" static ") && !line.contains("(")) {
+                boolean constant = line.matches("    (public|private) static final int [A-Z_]+ = [^\\[]*;");
+                Due.is("a constant: " + line.trim(), constant, true);
+            }
+        }
+    }
+
     private static void arrays(String code) {
         for (String line : code.split("\n")) {
             if (line.contains("new ")) {
                 boolean field = line.matches("    private final \\w+\\[\\] \\w+ = new \\w+\\[[A-Z]+\\];");
                 Due.is("an array that is made in a field: " + line.trim(), field, true);
+            }
+        }
+    }
+
+    private static void localArrays(Map<String, String> bodies) {
+        for (Map.Entry<String, String> body : bodies.entrySet()) {
+            Due.is("an array of its own in " + body.getKey(), body.getValue().contains("[]"), false);
+        }
+        for (Method method : PaneDesk.class.getDeclaredMethods()) {
+            Due.is(method.getName() + " answers an array", method.getReturnType().isArray(), false);
+        }
+    }
+
+    /** Loops are all written with for and a counter, so that the end of each can be seen. */
+    private static void loops(String code) {
+        String header = ".*for \\(int (\\w+) = [^;]+; \\1 [<>] [^;]+; \\1(\\+\\+|--)\\) \\{";
+        for (String line : code.split("\n")) {
+            if (Pattern.compile("\\b(for|while|do)\\b").matcher(line).find()) {
+                Due.is("a loop with a counter: " + line.trim(), line.matches(header), true);
             }
         }
     }
